@@ -21,6 +21,7 @@ public final class PromisesTest {
         scanner();
         scannerReads();
         scannersOfOneSecond();
+        readsThatWaitLonger();
         readAfterOut();
         item();
         itemsFull();
@@ -275,6 +276,24 @@ public final class PromisesTest {
         edgeIs(x, 5, 3, 1, 1, 0);
     }
 
+    private static void readsThatWaitLonger() {
+        BeltRows x = withBelts(1000, 100);
+        x.scanner(0, 10, 1);
+        x.scanner(0, 20, 4);
+        x.scanner(0, 30, 2);
+        x.scanner(0, 40, 3);
+        x.item(0, 1);
+        CHECK.is("nothing yet", x.step(1), 0);
+        for (int left = 4; left > 0; left--) {
+            CHECK.is("reads to come", x.count(7), left);
+            CHECK.is("one a second", x.step(1), 1);
+        }
+        edgeIs(x, 0, 2, 0, 1, 0);
+        edgeIs(x, 1, 3, 0, 1, 2);
+        edgeIs(x, 2, 4, 0, 1, 3);
+        edgeIs(x, 3, 5, 0, 1, 1);
+    }
+
     private static void readAfterOut() {
         BeltRows x = withBelts(100, 100);
         x.scanner(0, 100, 20);
@@ -525,6 +544,9 @@ public final class PromisesTest {
         CHECK.fails("slip a taken item", STATE, () -> x.slip(2, 1));
         CHECK.fails("no such slip comes first", ARGUMENT, () -> x.slip(2, 0));
         CHECK.is("nothing behind it now", x.slip(1, 450), 0);
+        x.step(2);
+        x.take(1);
+        CHECK.fails("slip an item that was far on when taken", STATE, () -> x.slip(1, 1));
     }
 
     private static void slipReadAgain() {
