@@ -30,6 +30,31 @@ final class Check {
         complain(what + " threw nothing, due is " + due.getName());
     }
 
+    void edgeIs(BeltRows x, int i, int second, int kind, int item, int where) {
+        is("edge(" + i + ", 0)", x.edge(i, 0), second);
+        is("edge(" + i + ", 1)", x.edge(i, 1), kind);
+        is("edge(" + i + ", 2)", x.edge(i, 2), item);
+        is("edge(" + i + ", 3)", x.edge(i, 3), where);
+    }
+
+    void toldIs(BeltRows x, int item, int... due) {
+        for (int what = 0; what < due.length; what++) {
+            is("second " + x.count(5) + ": told(" + item + ", " + what + ")", x.told(item, what), due[what]);
+        }
+    }
+
+    void knownIs(BeltRows x, int belt, int... due) {
+        for (int what = 0; what < due.length; what++) {
+            is("second " + x.count(5) + ": known(" + belt + ", " + what + ")", x.known(belt, what), due[what]);
+        }
+    }
+
+    void countIs(BeltRows x, int... due) {
+        for (int what = 0; what < due.length; what++) {
+            is("second " + x.count(5) + ": count(" + what + ")", x.count(what), due[what]);
+        }
+    }
+
     void complain(String text) {
         wrong++;
         System.out.println(text);

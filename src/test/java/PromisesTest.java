@@ -46,21 +46,6 @@ public final class PromisesTest {
         CHECK.end();
     }
 
-    private static BeltRows withBelts(int... lengthsAndSpeeds) {
-        BeltRows x = new BeltRows();
-        for (int i = 0; i < lengthsAndSpeeds.length; i += 2) {
-            x.belt(lengthsAndSpeeds[i], lengthsAndSpeeds[i + 1]);
-        }
-        return x;
-    }
-
-    private static void edgeIs(BeltRows x, int i, int second, int kind, int item, int where) {
-        CHECK.is("edge(" + i + ", 0)", x.edge(i, 0), second);
-        CHECK.is("edge(" + i + ", 1)", x.edge(i, 1), kind);
-        CHECK.is("edge(" + i + ", 2)", x.edge(i, 2), item);
-        CHECK.is("edge(" + i + ", 3)", x.edge(i, 3), where);
-    }
-
     // Promise 1
     private static void newObject() {
         BeltRows x = new BeltRows();
@@ -100,7 +85,7 @@ public final class PromisesTest {
 
     // Promise 3
     private static void join() {
-        BeltRows x = withBelts(100, 100, 100, 100, 100, 100);
+        BeltRows x = Rows.withBelts(100, 100, 100, 100, 100, 100);
         CHECK.fails("join(-1, 0, 1, 1)", MISSING, () -> x.join(-1, 0, 1, 1));
         CHECK.fails("join(3, 0, 1, 1)", MISSING, () -> x.join(3, 0, 1, 1));
         CHECK.fails("join(0, 0, 3, 1)", MISSING, () -> x.join(0, 0, 3, 1));
@@ -125,7 +110,7 @@ public final class PromisesTest {
     }
 
     private static void joinAgain() {
-        BeltRows x = withBelts(100, 100, 100, 100, 100, 100);
+        BeltRows x = Rows.withBelts(100, 100, 100, 100, 100, 100);
         x.join(0, 0, 1, 1);
         x.join(0, 1, 2, 1);
         x.item(0, 1);
@@ -139,7 +124,7 @@ public final class PromisesTest {
 
     // Promise 4
     private static void run() {
-        BeltRows x = withBelts(1000, 100, 1000, 100);
+        BeltRows x = Rows.withBelts(1000, 100, 1000, 100);
         x.join(0, 0, 1, 1);
         CHECK.fails("run(-1, 0, true)", MISSING, () -> x.run(-1, 0, true));
         CHECK.fails("run(2, -1, true)", MISSING, () -> x.run(2, -1, true));
@@ -175,7 +160,7 @@ public final class PromisesTest {
 
     // Promise 5
     private static void gaps() {
-        BeltRows x = withBelts(1000, 200, 100, 0);
+        BeltRows x = Rows.withBelts(1000, 200, 100, 0);
         x.join(0, 0, 1, 1);
         x.run(1, 0, false);
         CHECK.fails("gaps(-1)", ARGUMENT, () -> x.gaps(-1));
@@ -197,7 +182,7 @@ public final class PromisesTest {
     }
 
     private static void gapsGrown() {
-        BeltRows x = withBelts(1000, 200);
+        BeltRows x = Rows.withBelts(1000, 200);
         x.gaps(0);
         x.item(0, 200);
         x.step(1);
@@ -214,7 +199,7 @@ public final class PromisesTest {
 
     // Promise 6
     private static void scanner() {
-        BeltRows x = withBelts(1000, 100, 5, 1);
+        BeltRows x = Rows.withBelts(1000, 100, 5, 1);
         CHECK.fails("scanner(-1, 1, 1)", MISSING, () -> x.scanner(-1, 1, 1));
         CHECK.fails("scanner(2, 0, 0)", MISSING, () -> x.scanner(2, 0, 0));
         CHECK.fails("scanner(0, 0, 1)", ARGUMENT, () -> x.scanner(0, 0, 1));
@@ -234,7 +219,7 @@ public final class PromisesTest {
     }
 
     private static void scannerReads() {
-        BeltRows x = withBelts(1000, 100);
+        BeltRows x = Rows.withBelts(1000, 100);
         x.scanner(0, 100, 3);
         x.scanner(0, 101, 2);
         x.scanner(0, 200, 1);
@@ -248,15 +233,15 @@ public final class PromisesTest {
         CHECK.is("scanner 0 once more, 1 and 2", x.count(7), 4);
         x.take(1);
         CHECK.is("read though it was taken", x.step(1), 1);
-        edgeIs(x, 0, 3, 0, 1, 2);
+        CHECK.edgeIs(x, 0, 3, 0, 1, 2);
         CHECK.is("passed in second 1, then in second 2", x.step(1), 3);
-        edgeIs(x, 1, 4, 0, 1, 0);
-        edgeIs(x, 2, 4, 0, 1, 1);
-        edgeIs(x, 3, 4, 0, 2, 2);
+        CHECK.edgeIs(x, 1, 4, 0, 1, 0);
+        CHECK.edgeIs(x, 2, 4, 0, 1, 1);
+        CHECK.edgeIs(x, 3, 4, 0, 2, 2);
     }
 
     private static void scannersOfOneSecond() {
-        BeltRows x = withBelts(100, 50, 100, 50);
+        BeltRows x = Rows.withBelts(100, 50, 100, 50);
         x.gaps(0);
         x.scanner(1, 10, 1);
         x.scanner(0, 20, 1);
@@ -267,17 +252,17 @@ public final class PromisesTest {
         x.item(1, 1);
         x.step(1);
         CHECK.is("two reads of item 1", x.count(4), 2);
-        edgeIs(x, 0, 2, 0, 1, 1);
-        edgeIs(x, 1, 2, 0, 1, 2);
+        CHECK.edgeIs(x, 0, 2, 0, 1, 1);
+        CHECK.edgeIs(x, 1, 2, 0, 1, 2);
         CHECK.is("out after what is read, belts upward", x.step(1), 4);
-        edgeIs(x, 2, 3, 0, 2, 1);
-        edgeIs(x, 3, 3, 0, 2, 2);
-        edgeIs(x, 4, 3, 0, 3, 0);
-        edgeIs(x, 5, 3, 1, 1, 0);
+        CHECK.edgeIs(x, 2, 3, 0, 2, 1);
+        CHECK.edgeIs(x, 3, 3, 0, 2, 2);
+        CHECK.edgeIs(x, 4, 3, 0, 3, 0);
+        CHECK.edgeIs(x, 5, 3, 1, 1, 0);
     }
 
     private static void readsThatWaitLonger() {
-        BeltRows x = withBelts(1000, 100);
+        BeltRows x = Rows.withBelts(1000, 100);
         x.scanner(0, 10, 1);
         x.scanner(0, 20, 4);
         x.scanner(0, 30, 2);
@@ -288,26 +273,26 @@ public final class PromisesTest {
             CHECK.is("reads to come", x.count(7), left);
             CHECK.is("one a second", x.step(1), 1);
         }
-        edgeIs(x, 0, 2, 0, 1, 0);
-        edgeIs(x, 1, 3, 0, 1, 2);
-        edgeIs(x, 2, 4, 0, 1, 3);
-        edgeIs(x, 3, 5, 0, 1, 1);
+        CHECK.edgeIs(x, 0, 2, 0, 1, 0);
+        CHECK.edgeIs(x, 1, 3, 0, 1, 2);
+        CHECK.edgeIs(x, 2, 4, 0, 1, 3);
+        CHECK.edgeIs(x, 3, 5, 0, 1, 1);
     }
 
     private static void readAfterOut() {
-        BeltRows x = withBelts(100, 100);
+        BeltRows x = Rows.withBelts(100, 100);
         x.scanner(0, 100, 20);
         x.item(0, 1);
         CHECK.is("it is out in second 2", x.step(2), 1);
         CHECK.is("not read yet", x.step(18), 0);
         CHECK.is("read in second 21", x.step(1), 1);
-        edgeIs(x, 1, 21, 0, 1, 0);
+        CHECK.edgeIs(x, 1, 21, 0, 1, 0);
         CHECK.is("none is left", x.count(7), 0);
     }
 
     // Promise 7
     private static void item() {
-        BeltRows x = withBelts(1000, 100, 10, 0);
+        BeltRows x = Rows.withBelts(1000, 100, 10, 0);
         CHECK.fails("item(-1, 1)", MISSING, () -> x.item(-1, 1));
         CHECK.fails("item(2, 0)", MISSING, () -> x.item(2, 0));
         CHECK.fails("item(0, 0)", ARGUMENT, () -> x.item(0, 0));
@@ -330,7 +315,7 @@ public final class PromisesTest {
     }
 
     private static void itemsFull() {
-        BeltRows x = withBelts(1000, 100);
+        BeltRows x = Rows.withBelts(1000, 100);
         for (int i = 1; i <= 60; i++) {
             CHECK.is("item " + i, x.item(0, 5), i);
             if (i < 60) {
@@ -347,7 +332,7 @@ public final class PromisesTest {
 
     // Promise 8
     private static void divert() {
-        BeltRows x = withBelts(100, 100, 100, 100, 100, 100);
+        BeltRows x = Rows.withBelts(100, 100, 100, 100, 100, 100);
         x.join(0, 0, 1, 1);
         x.join(0, 1, 2, 1);
         x.item(0, 1);
@@ -377,12 +362,12 @@ public final class PromisesTest {
     }
 
     private static void waysThatAreNot() {
-        BeltRows x = withBelts(100, 100, 100, 100);
+        BeltRows x = Rows.withBelts(100, 100, 100, 100);
         x.join(0, 1, 1, 1);
         x.item(0, 1);
         x.step(2);
         CHECK.is("no way 0: out, though there is a way 1", x.told(1, 0), 1);
-        BeltRows y = withBelts(100, 100, 100, 100);
+        BeltRows y = Rows.withBelts(100, 100, 100, 100);
         y.join(0, 0, 1, 1);
         y.item(0, 1);
         y.divert(1, 1);
@@ -394,7 +379,7 @@ public final class PromisesTest {
 
     // Promise 9
     private static void step() {
-        BeltRows x = withBelts(100, 1000, 100, 1000, 100, 1000);
+        BeltRows x = Rows.withBelts(100, 1000, 100, 1000, 100, 1000);
         x.join(0, 0, 1, 1);
         x.join(1, 0, 2, 1);
         CHECK.fails("step(-1)", ARGUMENT, () -> x.step(-1));
@@ -406,9 +391,9 @@ public final class PromisesTest {
         x.item(2, 100);
         CHECK.is("all go to their ends", x.step(1), 0);
         CHECK.is("one out, two passed on", x.step(1), 3);
-        edgeIs(x, 0, 2, 1, 3, 2);
-        edgeIs(x, 1, 2, 2, 2, 2);
-        edgeIs(x, 2, 2, 2, 1, 1);
+        CHECK.edgeIs(x, 0, 2, 1, 3, 2);
+        CHECK.edgeIs(x, 1, 2, 2, 2, 2);
+        CHECK.edgeIs(x, 2, 2, 2, 1, 1);
         CHECK.is("moved in the second in which it came", x.told(1, 2), 100);
         CHECK.is("this one too", x.told(2, 2), 100);
         CHECK.is("step(98)", x.step(98), 3);
@@ -417,7 +402,7 @@ public final class PromisesTest {
     }
 
     private static void moves() {
-        BeltRows x = withBelts(1000, 130, 50, 0);
+        BeltRows x = Rows.withBelts(1000, 130, 50, 0);
         x.join(0, 0, 1, 1);
         x.run(1, 0, false);
         x.item(0, 20);
@@ -435,7 +420,7 @@ public final class PromisesTest {
     }
 
     private static void roomForPassing() {
-        BeltRows x = withBelts(100, 100, 1000, 50);
+        BeltRows x = Rows.withBelts(100, 100, 1000, 50);
         x.join(0, 0, 1, 1);
         x.item(0, 1);
         x.step(1);
@@ -452,7 +437,7 @@ public final class PromisesTest {
     }
 
     private static BeltRows merge(int shareOfZero, int shareOfOne) {
-        BeltRows x = withBelts(10, 1000, 10, 1000, 1000, 1000);
+        BeltRows x = Rows.withBelts(10, 1000, 10, 1000, 1000, 1000);
         x.gaps(0);
         x.join(0, 0, 2, shareOfZero);
         x.join(1, 0, 2, shareOfOne);
@@ -499,16 +484,16 @@ public final class PromisesTest {
 
     // Promise 10
     private static void edge() {
-        BeltRows x = withBelts(100, 50, 200, 200);
+        BeltRows x = Rows.withBelts(100, 50, 200, 200);
         x.join(0, 0, 1, 1);
         x.scanner(0, 1, 1);
         x.scanner(1, 200, 1);
         x.item(0, 1);
         CHECK.is("read, passed on, read, out", x.step(10), 4);
-        edgeIs(x, 0, 2, 0, 1, 0);
-        edgeIs(x, 1, 3, 2, 1, 1);
-        edgeIs(x, 2, 4, 0, 1, 1);
-        edgeIs(x, 3, 4, 1, 1, 1);
+        CHECK.edgeIs(x, 0, 2, 0, 1, 0);
+        CHECK.edgeIs(x, 1, 3, 2, 1, 1);
+        CHECK.edgeIs(x, 2, 4, 0, 1, 1);
+        CHECK.edgeIs(x, 3, 4, 1, 1, 1);
         CHECK.fails("edge(-1, 0)", MISSING, () -> x.edge(-1, 0));
         CHECK.fails("edge(4, 4)", MISSING, () -> x.edge(4, 4));
         CHECK.fails("edge(3, 4)", ARGUMENT, () -> x.edge(3, 4));
@@ -517,7 +502,7 @@ public final class PromisesTest {
 
     // Promise 11
     private static void slip() {
-        BeltRows x = withBelts(1000, 500);
+        BeltRows x = Rows.withBelts(1000, 500);
         x.item(0, 50);
         x.step(1);
         x.item(0, 10);
@@ -550,7 +535,7 @@ public final class PromisesTest {
     }
 
     private static void slipReadAgain() {
-        BeltRows x = withBelts(1000, 100);
+        BeltRows x = Rows.withBelts(1000, 100);
         x.scanner(0, 100, 1);
         x.item(0, 1);
         x.step(1);
@@ -564,7 +549,7 @@ public final class PromisesTest {
 
     // Promise 12
     private static void take() {
-        BeltRows x = withBelts(1000, 100, 1000, 100);
+        BeltRows x = Rows.withBelts(1000, 100, 1000, 100);
         x.gaps(0);
         for (int i = 1; i <= 3; i++) {
             x.item(0, 50);
@@ -593,7 +578,7 @@ public final class PromisesTest {
 
     // Promise 13
     private static void clean() {
-        BeltRows x = withBelts(1000, 100, 1000, 100);
+        BeltRows x = Rows.withBelts(1000, 100, 1000, 100);
         x.gaps(0);
         for (int i = 1; i <= 3; i++) {
             x.item(0, 50);
@@ -620,7 +605,7 @@ public final class PromisesTest {
 
     // Promise 14
     private static void gap() {
-        BeltRows x = withBelts(1000, 100, 1000, 100);
+        BeltRows x = Rows.withBelts(1000, 100, 1000, 100);
         x.gaps(0);
         x.item(0, 100);
         x.step(1);
@@ -646,42 +631,36 @@ public final class PromisesTest {
 
     // Promise 15
     private static void told() {
-        BeltRows x = withBelts(1000, 300, 500, 70);
+        BeltRows x = Rows.withBelts(1000, 300, 500, 70);
         x.join(0, 0, 1, 1);
         x.step(5);
         x.item(0, 40);
-        toldIs(x, 1, 0, 0, 0, 40, 0, 0, 5);
+        CHECK.toldIs(x, 1, 0, 0, 0, 40, 0, 0, 5);
         x.divert(1, 1);
         x.step(2);
         x.run(0, 100, true);
         x.step(1);
-        toldIs(x, 1, 0, 0, 700, 40, 1, 700, 5);
+        CHECK.toldIs(x, 1, 0, 0, 700, 40, 1, 700, 5);
         x.slip(1, 200);
         x.run(0, 900, false);
         x.step(1);
-        toldIs(x, 1, 0, 0, 500, 40, 1, 700, 5);
+        CHECK.toldIs(x, 1, 0, 0, 500, 40, 1, 700, 5);
         x.run(0, 400, true);
         x.step(1);
-        toldIs(x, 1, 0, 0, 900, 40, 1, 1000, 5);
+        CHECK.toldIs(x, 1, 0, 0, 900, 40, 1, 1000, 5);
         x.step(1);
         x.step(1);
-        toldIs(x, 1, 0, 1, 70, 40, 0, 70, 5);
+        CHECK.toldIs(x, 1, 0, 1, 70, 40, 0, 70, 5);
         x.step(8);
-        toldIs(x, 1, 1, 1, -1, 40, 0, -1, 5);
+        CHECK.toldIs(x, 1, 1, 1, -1, 40, 0, -1, 5);
         CHECK.fails("told(0, 0)", MISSING, () -> x.told(0, 0));
         CHECK.fails("told(2, 7)", MISSING, () -> x.told(2, 7));
         CHECK.fails("told(1, -1)", ARGUMENT, () -> x.told(1, -1));
         CHECK.fails("told(1, 7)", ARGUMENT, () -> x.told(1, 7));
     }
 
-    private static void toldIs(BeltRows x, int item, int... due) {
-        for (int what = 0; what < due.length; what++) {
-            CHECK.is("second " + x.count(5) + ": told(" + item + ", " + what + ")", x.told(item, what), due[what]);
-        }
-    }
-
     private static void expectedOfWaiting() {
-        BeltRows x = withBelts(1000, 300, 500, 0);
+        BeltRows x = Rows.withBelts(1000, 300, 500, 0);
         x.join(0, 0, 1, 1);
         x.run(1, 0, false);
         x.item(0, 600);
@@ -696,8 +675,8 @@ public final class PromisesTest {
 
     // Promise 16
     private static void known() {
-        BeltRows x = withBelts(400, 200, 300, 100, 200, 50);
-        knownIs(x, 0, 400, 200, 1, 0, -1, -1, -1, 0, 0);
+        BeltRows x = Rows.withBelts(400, 200, 300, 100, 200, 50);
+        CHECK.knownIs(x, 0, 400, 200, 1, 0, -1, -1, -1, 0, 0);
         x.join(0, 0, 1, 1);
         x.join(0, 1, 2, 1);
         x.gaps(0);
@@ -705,30 +684,24 @@ public final class PromisesTest {
         x.step(1);
         x.item(0, 10);
         x.divert(2, 1);
-        knownIs(x, 0, 400, 200, 1, 2, 1, 1, 2, 0, 0);
+        CHECK.knownIs(x, 0, 400, 200, 1, 2, 1, 1, 2, 0, 0);
         x.step(1);
         x.run(0, 300, true);
         x.step(1);
-        knownIs(x, 0, 400, 300, 1, 1, 2, 1, 2, 1, 0);
-        knownIs(x, 1, 300, 100, 1, 1, 1, -1, -1, 0, 0);
+        CHECK.knownIs(x, 0, 400, 300, 1, 1, 2, 1, 2, 1, 0);
+        CHECK.knownIs(x, 1, 300, 100, 1, 1, 1, -1, -1, 0, 0);
         x.step(1);
         x.run(0, 0, false);
-        knownIs(x, 0, 400, 0, 0, 0, -1, 1, 2, 1, 1);
+        CHECK.knownIs(x, 0, 400, 0, 0, 0, -1, 1, 2, 1, 1);
         CHECK.fails("known(-1, 0)", MISSING, () -> x.known(-1, 0));
         CHECK.fails("known(3, 9)", MISSING, () -> x.known(3, 9));
         CHECK.fails("known(0, -1)", ARGUMENT, () -> x.known(0, -1));
         CHECK.fails("known(0, 9)", ARGUMENT, () -> x.known(0, 9));
     }
 
-    private static void knownIs(BeltRows x, int belt, int... due) {
-        for (int what = 0; what < due.length; what++) {
-            CHECK.is("second " + x.count(5) + ": known(" + belt + ", " + what + ")", x.known(belt, what), due[what]);
-        }
-    }
-
     // Promise 17
     private static void order() {
-        BeltRows x = withBelts(100, 10, 100, 100, 100, 50);
+        BeltRows x = Rows.withBelts(100, 10, 100, 100, 100, 50);
         x.item(0, 1);
         x.item(1, 1);
         x.item(2, 1);
@@ -739,7 +712,7 @@ public final class PromisesTest {
         CHECK.is("order(2)", x.order(2), 1);
         CHECK.fails("order(3)", MISSING, () -> x.order(3));
         CHECK.fails("order(-1)", MISSING, () -> x.order(-1));
-        BeltRows y = withBelts(100, 100, 100, 100);
+        BeltRows y = Rows.withBelts(100, 100, 100, 100);
         y.item(0, 1);
         y.item(1, 1);
         y.step(2);
@@ -749,7 +722,7 @@ public final class PromisesTest {
 
     // Promise 18
     private static void mean() {
-        BeltRows x = withBelts(100, 100, 100, 50);
+        BeltRows x = Rows.withBelts(100, 100, 100, 50);
         CHECK.fails("mean(): none yet", ARITHMETIC, () -> x.mean());
         x.item(0, 1);
         x.take(1);
@@ -773,7 +746,7 @@ public final class PromisesTest {
 
     // Promise 19
     private static void count() {
-        BeltRows x = withBelts(1000, 100, 100, 100);
+        BeltRows x = Rows.withBelts(1000, 100, 100, 100);
         x.scanner(0, 100, 20);
         x.scanner(0, 100, 2);
         x.scanner(1, 1, 20);
@@ -786,16 +759,10 @@ public final class PromisesTest {
         x.item(1, 1);
         x.take(3);
         x.step(2);
-        countIs(x, 2, 4, 1, 2, 3, 3, 3, 3);
+        CHECK.countIs(x, 2, 4, 1, 2, 3, 3, 3, 3);
         CHECK.is("count(-1)", x.count(-1), -1);
         CHECK.is("count(8)", x.count(8), -1);
         CHECK.is("count of the greatest", x.count(Integer.MAX_VALUE), -1);
         CHECK.is("count of the least", x.count(Integer.MIN_VALUE), -1);
-    }
-
-    private static void countIs(BeltRows x, int... due) {
-        for (int what = 0; what < due.length; what++) {
-            CHECK.is("count(" + what + ")", x.count(what), due[what]);
-        }
     }
 }
