@@ -61,6 +61,7 @@ public final class SentencesTest {
         countedByWay();
         notBehindTheEnd();
         notBehindTheRearLessTheGap();
+        eachBehindTheNext();
         neverBack();
         theOneThatCameToo();
         nothingMoves();
@@ -100,6 +101,7 @@ public final class SentencesTest {
         takenFromEachPlace();
         cleanedOnlyIfStopped();
         gapsOfTwoItems();
+        gapsByPlacesOnly();
         toldOfItemsOnNoBelt();
         knownOfAnEmptyBelt();
         orderOfWhatWentOut();
@@ -762,6 +764,26 @@ public final class SentencesTest {
         CHECK.toldIs(y, 3, 0, 0, 300);
     }
 
+    private static void eachBehindTheNext() {
+        BeltRows x = Rows.withBelts(1000, 200, 10, 0);
+        x.join(0, 0, 1, 1);
+        x.run(1, 0, false);
+        x.gaps(30);
+        int[] due = {1000, 960, 910, 850};
+        for (int item = 1; item <= 4; item++) {
+            x.item(0, 10 * item);
+            x.step(1);
+        }
+        x.step(6);
+        for (int item = 1; item <= 4; item++) {
+            CHECK.is("item " + item + " stands", x.told(item, 2), due[item - 1]);
+        }
+        x.take(2);
+        x.step(1);
+        CHECK.is("up to the one in front of the taken one", x.told(3, 2), 960);
+        CHECK.is("and the one behind it", x.told(4, 2), 900);
+    }
+
     // (and never back)
     private static void neverBack() {
         BeltRows x = Rows.withBelts(1000, 300, 10, 0);
@@ -889,6 +911,23 @@ public final class SentencesTest {
         y.scanner(0, 1000, 1);
         y.run(0, 1000, false);
         CHECK.is("a scanner that came too late", y.step(5), 0);
+        belowThoughExpectedBeyond();
+    }
+
+    private static void belowThoughExpectedBeyond() {
+        BeltRows x = Rows.withBelts(1000, 500, 10, 0);
+        x.join(0, 0, 1, 1);
+        x.run(1, 0, false);
+        x.scanner(0, 701, 1);
+        x.scanner(0, 700, 20);
+        x.item(0, 200);
+        x.step(2);
+        x.item(0, 1);
+        x.step(2);
+        CHECK.is("it waits at 700", x.told(2, 2), 700);
+        CHECK.is("though it was expected beyond", x.told(2, 5), 1000);
+        CHECK.is("only the first item is read at 701", x.count(4), 1);
+        CHECK.is("both are to be read at 700", x.count(7), 2);
     }
 
     private static void ofItsBelt() {
@@ -1340,6 +1379,24 @@ public final class SentencesTest {
         CHECK.fails("the other is not there", MISSING, () -> x.gap(0, 1));
     }
 
+    private static void gapsByPlacesOnly() {
+        BeltRows x = Rows.withBelts(5000, 1000);
+        x.item(0, 10);
+        x.step(2);
+        x.item(0, 10);
+        x.step(1);
+        x.slip(2, 1000);
+        x.step(1);
+        x.slip(1, 1000);
+        x.slip(1, 1000);
+        x.slip(2, 500);
+        x.slip(1, 500);
+        CHECK.toldIs(x, 1, 0, 0, 1500, 10, 0, 4000, 0);
+        CHECK.toldIs(x, 2, 0, 0, 500, 10, 0, 2000, 2);
+        CHECK.is("not by what was expected", x.gap(1, 2), 990);
+        CHECK.is("either way", x.gap(2, 1), 990);
+    }
+
     // told: 1 the belt on which it is or was last, 2 its place (-1 on none), 5 .. (-1 on none)
     private static void toldOfItemsOnNoBelt() {
         BeltRows x = Rows.withBelts(10, 10, 10, 10, 10, 10);
@@ -1428,13 +1485,13 @@ public final class SentencesTest {
         }
         x.item(0, 1);
         int edges = 0;
-        for (int i = 0; i < 252; i++) {
+        for (int i = 0; i < 250; i++) {
             edges += x.step(1);
             x.slip(1, 1000);
         }
-        CHECK.is("232 seconds of four reads each", edges, 928);
+        CHECK.is("230 seconds of four reads each", edges, 920);
         CHECK.is("the rest is to come", x.count(7), 80);
-        CHECK.edgeIs(x, 927, 252, 0, 1, 3);
+        CHECK.edgeIs(x, 919, 250, 0, 1, 3);
         BeltRows y = Rows.withBelts(1, 0);
         y.item(0, 1);
         for (int i = 0; i < 507; i++) {
