@@ -394,9 +394,12 @@ public final class BeltRows {
             return;
         }
         Belt giver = giverTo(belt);
-        Item item = giver == null ? null : giver.itemAtEnd();
-        Way way = item == null ? null : giver.wayOf(item);
-        if (way == null) {
+        if (giver == null) {
+            return;
+        }
+        Item item = giver.itemAtEnd();
+        Way way = giver.wayInUse();
+        if (item == null || way == null) {
             return;
         }
         way.went++;
